@@ -80,8 +80,9 @@ public final class OlderTale {
   private int faultAt = NONE;
   private int mumbledLast = 0;
   private final Plan plan = new Plan();
-  private final Plan trial = new Plan();
-  private final Season season = new Season();
+  /** Large and seldom asked for, so made at the first call that needs them. */
+  private Plan trial = null;
+  private Season season = null;
   private final Dates dates = new Dates();
   private final Triples line = new Triples();
   private final Triples evening = new Triples();
@@ -330,6 +331,9 @@ public final class OlderTale {
       return NONE;
     }
     plan.reckon(table);
+    if (season == null) {
+      season = new Season();
+    }
     season.lay(plan, evenings - 1);
     int left = table.all();
     if (i == NONE) {
@@ -558,6 +562,9 @@ public final class OlderTale {
   private int worthIfKnown(int tale, int teller) {
     int was = table.known[tale];
     table.known[tale] = was | 1 << teller;
+    if (trial == null) {
+      trial = new Plan();
+    }
     trial.spoil();
     trial.reckon(table);
     trial.choose(table, false);
@@ -1202,8 +1209,10 @@ public final class OlderTale {
         }
         sum += worth[tale];
         int rest = set & ~(1 << tale);
-        for (int teller = 0; teller < TELLERS; teller++) {
-          if ((able[tale] >> teller & 1) == 0) {
+        // If one may tell twice running, who tells never matters: the lowest stands for all.
+        int tellers = twice ? able[tale] & -able[tale] : able[tale];
+        for (int teller = 0; teller < TELLERS && tellers >> teller != 0; teller++) {
+          if ((tellers >> teller & 1) == 0) {
             continue;
           }
           int year = yearAhead(tale, yearNeeded(rest, teller));
@@ -1431,10 +1440,10 @@ public final class OlderTale {
 
     /** The most worth of so many evenings with the tales that are left; the row of one evening less stands. */
     private int most(Plan plan, int evenings, int left) {
-      int top = 0;
+      int top = rows[evenings - 1][left];
       int set = left;
       for (int n = 0; n < SETS && top < plan.sums[left]; n++) {
-        if (plan.fits(set, FREE, NOBODY)) {
+        if (plan.least[set] <= FREE) {
           top = Math.max(top, plan.sums[set] + rows[evenings - 1][left & ~set]);
         }
         if (set == 0) {
@@ -1448,7 +1457,7 @@ public final class OlderTale {
     private int lowest(Plan plan, int evenings, int left) {
       int top = most(plan, evenings, left);
       for (int set = 0; set <= left; set++) {
-        if ((set & ~left) == 0 && plan.fits(set, FREE, NOBODY)
+        if ((set & ~left) == 0 && plan.least[set] <= FREE
             && plan.sums[set] + rows[evenings - 1][left & ~set] == top) {
           return set;
         }
