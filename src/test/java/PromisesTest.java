@@ -282,6 +282,12 @@ public final class PromisesTest {
     faultOf("Bars", 0);
     faultOf("barsif 1=1", 0);
     faultOf("bars\tif 1=1", 4);
+    faultOf("barsz", 0);
+    faultOf("barsa", 0);
+    faultOf("bars`", 4);
+    faultOf("bars{", 4);
+    faultOf("gap 9:", 5);
+    faultOf("gap 0/", 6);
     faultOf("gap tales", 4);
     faultOf("gap tale from", 9);
     faultOf("gap worth", 4);
@@ -308,6 +314,10 @@ public final class PromisesTest {
     faultOf("bars if " + "(".repeat(7) + "[1]=[1]+[1]" + ")".repeat(7) + "or([1]=1)", -1);
     faultOf("bars if " + "not ".repeat(97) + "1=1", -1);
     faultOf("bars if " + "not ".repeat(98), 400);
+    faultOf(";".repeat(400), 0);
+    faultOf("bars" + " ".repeat(395) + ";", 400);
+    faultOf("gap " + "0".repeat(396), -1);
+    faultOf("worth 1 if " + "not(".repeat(8) + "1=1" + ")".repeat(8), -1);
   }
 
   private static void worths() {
@@ -607,6 +617,10 @@ public final class PromisesTest {
     due("knows all", x.learn(1, 1), -1);
     due("all as it is", x.learn(0, 0), 0);
     due("all as it is", x.learn(0, 1), 210);
+    // 0 can only be told alone: it is worth more than 1 and 2, which are more tales.
+    OlderTale z = under("gap 50 if tale = 0", 10, 10, 90, 0, 10, 12, 1, 1, 10, 12, 1, 1);
+    due("the best, not the longest", z.learn(0, 0), 0);
+    due("the best, not the longest", z.learn(0, 1), 90);
     OlderTale y = under("worth base * known; bars if teller = 1 and tale = 1", 10, 10, 40, 1, 5, 5, 50, 1, 5, 5, 20, 3);
     // Known by two, 1 is worth 100, though 1 is barred from it: with 0 that is 140, and by 0 it would be 130.
     due("by how many know it", y.learn(1, 1), 140);
@@ -823,6 +837,25 @@ public final class PromisesTest {
     due("status", x.status(), 0);
   }
 
+  /** Laws of one number in two images. */
+  private static void lawsOfImages() {
+    OlderTale x = under("", 0, 50, 1, 3);
+    x.image(0);
+    type(x, "worth 5");
+    due("law 0", x.law(), 0);
+    x.force(0);
+    x.image(1);
+    x.back(0);
+    due("none", x.count(1), 0);
+    due("none in force", x.count(11), -1);
+    type(x, "worth 6");
+    due("law 0 again", x.law(), 0);
+    due("force", x.force(0), -1);
+    due("worth by it", x.of(0, 4), 6);
+    x.back(1);
+    due("worth by the other", x.of(0, 4), 5);
+  }
+
   private static void counts() {
     OlderTale x = new OlderTale();
     for (int i = 0; i < 3; i++) x.tale(-1, 0, 0, 0);
@@ -893,6 +926,7 @@ public final class PromisesTest {
     wrongAndLiars();
     draw();
     images();
+    lawsOfImages();
     counts();
     statuses();
     System.out.println(asked + " answers by hand, " + wrong + " wrong");
