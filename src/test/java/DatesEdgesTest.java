@@ -121,6 +121,8 @@ public final class DatesEdgesTest {
         "claim 0 9 2", "wrong = 0", "terms 0 3", "wrong = -1");
     edge("31 twice", "3 times tale 0 90 1 3", "claim 0 50 0", "claim 1 40 0", "wrong = -1", "terms 1 0", "wrong = 1", "clear",
         "claim 0 50 0", "claim 1 40 1", "claim 2 30 0", "wrong = -1");
+    edge("31 twice by the second teller", "2 times tale 0 90 1 2", "claim 0 50 1", "claim 1 40 1", "wrong = -1", "terms 1 0", "wrong = 1");
+    edge("31 the last tale told already", "10 times tale 0 90 1 1", "claim 9 50 0", "claim 8 40 0", "claim 9 30 0", "wrong = 2");
     edge("31 told already", "2 times tale 0 90 1 1", "claim 0 50 0", "claim 0 40 0", "wrong = 1", "clear", "claim 0 50 0",
         "claim 1 40 0", "claim 0 30 0", "wrong = 2");
     edge("31 the first of two", "2 times tale 0 90 1 1", "claim 0 91 0", "claim 1 91 0", "wrong = 0");
@@ -196,6 +198,11 @@ public final class DatesEdgesTest {
     edge("36 laws, which is in force", "tale 0 9 2 3", "type worth 5", "law", "force 0", "image 0", "type worth 6", "law = 1",
         "force 1 = 0", "of 0 4 = 6", "back 0", "count 1 = 1", "count 11 = 0", "of 0 4 = 5", "force 1 = -2", "type worth 7",
         "law = 1", "force 1", "of 0 4 = 7");
+    edge("36 laws of one number", "tale 0 9 2 3", "image 0", "type worth 5", "law = 0", "force 0", "image 1", "back 0", "count 1 = 0",
+        "count 11 = -1", "of 0 4 = 2", "type worth 6", "law = 0", "force 0", "of 0 4 = 6", "back 1", "of 0 4 = 5");
+    edge("36 the sixth laws of one number", "tale 0 9 2 3", "type bars", "law", "type bars", "law", "type bars", "law", "type bars",
+        "law", "type bars", "law", "image 0", "type worth 5", "law = 5", "force 5", "image 1", "back 0", "count 1 = 5", "type worth 6",
+        "law = 5", "force 5", "of 0 4 = 6", "back 1", "of 0 4 = 5", "count 1 = 6");
     edge("36 room for laws as then", "image 0", "type bars", "law", "type bars", "law", "type bars", "law", "type bars", "law",
         "type bars", "law", "type bars", "law = 5", "type bars", "law = -5", "back 0", "type bars", "law = 0");
     edge("36 what was told, with year and teller", "tale 0 9 2 3", "tale 0 9 2 3", "terms 1 0", "tell 0 1", "image 0", "hush",

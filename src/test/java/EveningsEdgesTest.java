@@ -95,6 +95,11 @@ public final class EveningsEdgesTest {
     edge("18 twice is 0 behind what was told", "tale 0 9 1 3", "tale 0 9 1 1", "terms 1 0", "tell 0 0", "goes 2 = 0", "hush",
         "tell 0 1", "goes 2 = 1");
     edge("18 told by a third one", "tale 0 9 1 15", "tale 0 9 1 1", "terms 0 3", "terms 1 0", "tell 0 2", "goes 2 = 1");
+    edge("18 twice is 0 and only one of two tellers knows them", "2 times tale 0 9 1 2", "terms 1 0", "goes 1 = 1", "goes 3 = 0");
+    edge("18 by whom it can begin latest", "tale 0 9 1 3", "tale 8 9 1 3", "tale 9 9 1 2", "terms 1 0", "tell 2 1 = 9", "goes 3 = 1",
+        "order 3 0 0 = 1", "order 3 0 2 = 0");
+    edge("18 by whom else it has to begin", "tale 0 9 1 1", "tale 8 9 1 2", "tale 10 10 1 2", "terms 1 0", "tell 2 1 = 10",
+        "goes 3 = 1", "order 3 0 0 = 0", "hush", "put 2 0 9", "put 2 1 9", "tell 2 1 = 9", "goes 3 = 0", "goes 1 = 1");
     edge("18 the year 0 is a year", "tale 1 1 1 1", "tale 0 0 1 1", "goes 3 = 1", "tell 0 0", "goes 2 = 1");
   }
 
@@ -145,6 +150,12 @@ public final class EveningsEdgesTest {
         "order 15 2 2 = 0", "order 15 3 2 = 1");
     edge("20 behind who told", "tale 0 9 1 1", "2 times tale 0 9 1 3", "terms 1 0", "tell 0 0", "order 6 0 0 = 1", "order 6 0 1 = 8",
         "order 6 0 2 = 1", "order 6 1 2 = 0", "terms 1 1", "order 6 0 2 = 0");
+    edge("20 who told can't tell the lower tale", "tale 0 9 1 2", "tale 0 9 1 1", "tale 0 9 1 2", "terms 1 0", "tell 2 1",
+        "order 3 0 0 = 1", "order 3 0 2 = 0", "order 3 1 0 = 0", "order 3 1 2 = 1");
+    edge("20 who would tell can't tell the lower tale next", "tale 0 9 1 1", "tale 0 9 1 1", "tale 0 9 1 2", "terms 1 0",
+        "order 7 0 0 = 0", "order 7 1 0 = 2", "order 7 2 0 = 1", "order 7 2 1 = 7", "order 7 1 2 = 1");
+    edge("20 not by who told", "2 times tale 0 9 1 6", "terms 0 3", "terms 1 0", "tell 0 1", "order 2 0 2 = 2", "hush", "tell 0 2",
+        "order 2 0 2 = 1");
     edge("20 the last teller", "tale 0 9 1 8", "terms 0 4", "order 1 0 2 = 3");
     edge("20 a lower tale that would not lead on", "tale 0 9 1 1", "tale 9 9 1 1", "order 3 0 0 = 1", "order 3 0 1 = 9",
         "order 3 1 0 = 0", "order 3 1 1 = 8");
@@ -163,6 +174,8 @@ public final class EveningsEdgesTest {
     edge("21 a set that does not go on", "tale 9 9 1 1", "tale 9 9 1 1", "orders 3 = 0");
     edge("21 whoever tells", "tale 0 9 1 15", "tale 0 9 1 15", "terms 0 4", "orders 3 = 2", "terms 1 0", "orders 3 = 2");
     edge("21 twice is 0", "tale 0 9 1 1", "tale 0 9 1 2", "tale 0 9 1 1", "orders 7 = 6", "terms 1 0", "orders 7 = 2", "orders 5 = 0");
+    edge("21 twice is 0 behind who told", "tale 0 9 1 2", "tale 0 9 1 1", "tale 0 9 1 2", "terms 1 0", "orders 6 = 2", "tell 0 1",
+        "orders 4 = 0", "orders 2 = 1", "orders 6 = 1");
     edge("21 behind what was told", "tale 9 9 1 1", "tale 8 8 1 1", "tale 7 9 1 1", "orders 6 = 2", "tell 0 0", "orders 6 = 1");
     edge("21 seven of ten behind three", "10 times tale 0 9 1 1", "tell 0 0", "tell 1 0", "tell 2 0", "orders 1016 = 5040");
   }
@@ -210,6 +223,8 @@ public final class EveningsEdgesTest {
         "winter 4 1 = 14", "winter 4 2 = 112", "winter 4 3 = 896");
     edge("23 the most worth that can be", "10 times tale 0 9 0 1", "type worth 2000", "law", "force 0", "winter 4 -1 = 9990",
         "winter 4 3 = 1023", "winter 1 0 = 1023");
+    edge("23 behind a change", "5 times tale 5 5 10 1", "winter 4 -1 = 40", "put 0 2 1", "put 1 2 1", "put 2 2 1", "put 3 2 1",
+        "put 4 2 2", "winter 4 -1 = 5", "winter 4 0 = 1", "winter 4 3 = 16", "terms 0 1", "put 4 3 2", "winter 4 -1 = 4");
     edge("23 what nobody can tell", "tale 0 9 50 12", "tale 0 9 7 1", "winter 4 -1 = 7", "winter 4 3 = 2");
     edge("23 twice is 0 within an evening, not from one to another", "tale 0 9 5 1", "tale 0 9 7 1", "terms 1 0", "winter 1 -1 = 7",
         "winter 2 -1 = 12", "winter 2 0 = 1", "winter 2 1 = 2");
@@ -224,6 +239,9 @@ public final class EveningsEdgesTest {
         "learn -2147483648 1 = -1", "terms 0 4", "learn 4 0 = -1");
     edge("24 no such what", "tale 0 9 7 0", "learn 0 2 = -1", "learn 0 -1 = -1", "learn 0 2147483647 = -1");
     edge("24 he knows all", "tale 0 9 7 1", "tale 0 9 7 3", "learn 0 0 = -1", "learn 0 1 = -1", "learn 1 0 = 0", "learn 1 1 = 14");
+    edge("24 the second teller knows all", "tale 0 9 7 2", "learn 1 0 = -1", "learn 1 1 = -1", "learn 0 0 = 0");
+    edge("24 what BEST is worth, not LONGEST", "tale 10 10 90 0", "tale 10 12 1 1", "tale 10 12 1 1", "type gap 50 if tale=0", "law",
+        "force 0", "learn 0 0 = 0", "learn 0 1 = 90");
     edge("24 none is not refused", "learn 0 0 = -1", "learn 9 9 = -1", "status = 0", "count 6 = 0", "count 7 = 0");
     edge("24 the lowest of alike ones", "tale 0 9 5 0", "tale 0 9 7 0", "tale 0 9 7 0", "learn 0 0 = 1", "learn 0 1 = 7");
     edge("24 though it is worth nothing", "tale 5 5 9 2", "tale 5 5 9 0", "learn 0 0 = 0", "learn 0 1 = 9");

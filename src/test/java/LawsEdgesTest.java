@@ -62,6 +62,8 @@ public final class LawsEdgesTest {
     edge("9 the first and the last numbers", "bytes 0 0 7 208 99 15 7 208 7 208 0 0 0 0 0 0 0 0", "row = 3", "mumbled = 0",
         "of 0 0 = 0", "of 0 1 = 2000", "of 0 2 = 99", "of 0 3 = 15", "of 1 0 = 2000", "of 1 1 = 2000", "of 1 2 = 0",
         "of 1 3 = 0", "of 2 1 = 0");
+    edge("9 what came is there at once", "tale 0 9 5 1", "open = 1", "best 0 0 = 5", "bytes 0 5 0 9 3 1", "row = 1", "open = 3",
+        "best 0 0 = 8", "of 1 4 = 3");
     edge("10 to above 2000 is mumbled", "bytes 0 0 7 209 9 9", "row = 0", "mumbled = 1");
     edge("10 from and to above 2000 are mumbled", "bytes 7 209 7 209 9 9 255 255 255 255 9 9", "row = 0", "mumbled = 2");
     edge("10 from is to", "bytes 0 5 0 5 9 9", "row = 1", "mumbled = 0");
@@ -101,6 +103,10 @@ public final class LawsEdgesTest {
     edge("11 blanks alone", "type         ", "law = -6", "fault = 8");
     edge("11 400 blanks", "20 times feed 538976288 538976288 538976288 538976288 538976288", "law = -6", "fault = 400", "count 5 = 0");
     edge("11 400 bytes", "type " + " ".repeat(396) + "bars", "law = 0", "fault = -1");
+    edge("11 each law has 50 parts of its own", "type worth " + "1+".repeat(49) + "1", "law = 0", "type worth " + "1+".repeat(49) + "1",
+        "law = 1", "fault = -1");
+    edge("11 each law has 12 clauses of its own", "type " + "bars;".repeat(11) + "bars", "law = 0", "type " + "bars;".repeat(11) + "bars",
+        "law = 1", "type worth 3", "law = 2", "force 2", "tale 0 9 5 1", "of 0 4 = 3", "can 0 0 = 1");
     edge("12 none ahead of any law", "fault = -1", "row = -6", "fault = -1", "force 5 = -2", "fault = -1");
     edge("12 none behind a law that was read", "type ?", "law = -6", "fault = 0", "type bars", "law = 0", "fault = -1");
     edge("12 of the latest law", "type ?", "law = -6", "fault = 0", "type bars ?", "law = -6", "fault = 5");
@@ -344,9 +350,22 @@ public final class LawsEdgesTest {
     worth("and ahead of or", "worth 3;worth 4 if 1=1 or 1=2 and 1=2", 4);
     worth("and ahead of or, not from left to right", "worth 3;worth 4 if (1=1 or 1=2) and 1=2", 3);
     worth("three with or", "worth 3;worth 4 if 1=2 or 1=3 or 1=1", 4);
+    worth("three with or, the first is so", "worth 3;worth 4 if 1=1 or 1=2 or 1/0=1", 4);
+    worth("three with or, the second is so", "worth 3;worth 4 if 1=2 or 1=1 or 1/0=1", 4);
+    worth("three with or, none is so", "worth 3;worth 4 if 1=2 or 2=1 or 3=1", 3);
+    worth("three with and, the first is not so", "worth 3;worth 4 if not (1=2 and 1/0=1 and 1/0=1)", 4);
+    worth("or and or", "worth 3;worth 4 if 1=2 or 1=1 and 1=2 or 1=1", 4);
     worth("three with and", "worth 3;worth 4 if 1=1 and 2=2 and 1=2", 3);
     worth("not is of the next alone", "worth 3;worth 4 if not 1=2 or 1=1/0", 4);
     worth("not twice", "worth 3;worth 4 if not not 1=2", 3);
+    worth("not of what is not so", "worth 3;worth 4 if not 1=2", 4);
+    worth("not of less", "worth 3;worth 4 if not 1<2", 3);
+    worth("not of more", "worth 3;worth 4 if not 2>1", 3);
+    worth("not of alike", "worth 3;worth 4 if not 2=2", 3);
+    worth("not of not in brackets", "worth 3;worth 4 if not (not 2=2)", 4);
+    worth("not of not in brackets that is not so", "worth 3;worth 4 if not (not 2=3)", 3);
+    worth("not of and", "worth 3;worth 4 if not (1=1 and 1=2)", 4);
+    worth("not of or", "worth 3;worth 4 if not (1=2 or 1=1)", 3);
     worth("alike is not less", "worth 3;worth 4 if 2<2", 3);
     worth("one less is less", "worth 3;worth 4 if 1<2", 4);
     worth("alike is not more", "worth 3;worth 4 if 2>2", 3);

@@ -25,6 +25,7 @@ public final class RandomRunsTest {
   private int wrong;
   private final List<String> run = new ArrayList<>();
   private int years = 2000;
+  private boolean onEdge;
 
   private RandomRunsTest(long seed, TreeMap<String, int[]> seen) {
     random = new Random(seed);
@@ -55,12 +56,15 @@ public final class RandomRunsTest {
     return random.nextInt(n);
   }
 
-  /** Mostly a number from 0 to top, now and then one just outside or far away. */
+  /** Mostly a number from 0 to top, now and then (in runs along the edges: often) one at the edge, just outside or far away. */
   private int about(int top) {
-    int dice = below(40);
+    int dice = below(onEdge ? 12 : 40);
     if (dice == 0) return -1 - below(3);
     if (dice == 1) return top + 1 + below(2);
     if (dice == 2 && below(5) == 0) return random.nextInt();
+    if (dice == 3) return top;
+    if (dice == 4) return 0;
+    if (dice == 5 && onEdge) return below(2) == 0 ? Integer.MAX_VALUE - below(2) : Integer.MIN_VALUE + below(2);
     return top < 0 ? 0 : below(top + 1);
   }
 
@@ -133,7 +137,7 @@ public final class RandomRunsTest {
       case "duel": ask(name, about(1)); break;
       case "winter": {
         int evenings = 1 + about(3);
-        if (!y.isLongWinter(evenings)) ask(name, evenings, about(evenings) - 1);
+        if (!y.isLongWinter(evenings)) ask(name, evenings, about(Math.max(0, Math.min(evenings, 5))) - 1);
         break;
       }
       case "learn": ask(name, about(y.count(12) - 1), about(1)); break;
@@ -181,6 +185,7 @@ public final class RandomRunsTest {
     x = new OlderTale();
     y = new PlainTale();
     years = below(3) == 0 ? 2000 : below(2) == 0 ? 12 : 60;
+    onEdge = below(4) == 0;
     int start = below(11);
     for (int i = 0; i < start; i++) {
       int from = below(years);
