@@ -273,6 +273,9 @@ public final class LawsEdgesTest {
     taken("not is no bracket", "bars if " + "not ".repeat(97) + "1=1");
     faulty("not till the end", "bars if " + "not ".repeat(98), 400);
     faulty("400 opening brackets", "[".repeat(400), 0);
+    faulty("400 tokens, the last one a number", "+".repeat(399) + "1", 0);
+    faulty("400 tokens, each second one a number", "1+".repeat(200), 0);
+    faulty("as many tokens as can be behind a clause's beginning", "gap 1" + ";".repeat(394) + "1", 6);
     faulty("all brackets that there is room for", "worth " + "[".repeat(394), 14);
     faulty("all round brackets that there is room for", "bars if " + "(".repeat(392), 16);
     taken("8 in each clause", "worth [[[[[[[[1]]]]]]]];bars if ((((((((1=1))))))));gap [[[[[[[[1]]]]]]]]if((((((((1=1))))))))");
